@@ -410,6 +410,9 @@ public final class PromiseTest {
 
     private static void variableZeroIsTheFirstDigit() {
         WcspSolver x = new WcspSolver(6, 3);
+        for (int v = 0; v < 6; v++) {
+            due("bestValue " + v + " of a new object", x.bestValue(v), 0);
+        }
         x.relate(6 * 0 + 5, 1, 1);
         for (int v = 0; v < 5; v++) {
             due("bestValue " + v + " of six", x.bestValue(v), 0);
