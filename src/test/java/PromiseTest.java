@@ -66,6 +66,7 @@ public final class PromiseTest {
         greatestCost();
         questionsChangeNothing();
         objectsAreApart();
+        readmeExample();
         System.out.println(wrong == 0 ? "the promises hold" : wrong + " answers are not as due");
         if (wrong != 0) {
             System.exit(1);
@@ -616,5 +617,18 @@ public final class PromiseTest {
         due("the other's unary cost", y.unaryCost(0, 0), 0);
         due("the other's binary cost", y.binaryCost(1, 0), 0);
         due("the other's allowed set", y.allow(1, 3), 3);
+    }
+
+    /** The example of README.md, so that what its comments say stays true. */
+    private static void readmeExample() {
+        WcspSolver x = new WcspSolver(3, 2);
+        due("README unary", x.unary(0, 0, 5), 0);
+        due("README relate", x.relate(3 * 0 + 1, 1, 4), 0);
+        due("README binary", x.binary(3 * 1 + 2, 2 * 0 + 0, WcspSolver.FORBIDDEN), 0);
+        due("README best", x.best(), 0);
+        due("README bestValue", x.bestValue(0), 1);
+        due("README allow", x.allow(0, 1), 3);
+        due("README best after allow", x.best(), 5);
+        due("README unary of no variable", x.unary(3, 0, 5), -1);
     }
 }
